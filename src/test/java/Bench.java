@@ -7,10 +7,7 @@ final class Bench {
 
     static void due(String call, long got, long want) {
         if (got != want) {
-            wrong++;
-            if (wrong <= MOST_SHOWN) {
-                System.out.println(call + " answered " + got + ", due is " + want);
-            }
+            due(call, Long.toString(got), Long.toString(want));
         }
     }
 
