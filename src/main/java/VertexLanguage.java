@@ -77,7 +77,7 @@ public final class VertexLanguage {
         if (!program.stands) {
             return BAD;
         }
-        int entry = program.lot.findBytes(tape, 0, tapeLength);
+        int entry = program.lot.findBytes(tape, tapeLength);
         tapeLength = 0;
         return entry < 0 ? NONE : 100 * program.lot.sortOf(entry) + program.lot.numberOf(entry);
     }
@@ -500,12 +500,17 @@ public final class VertexLanguage {
         }
 
         int find(int token) {
-            return findBytes(text.bytes, text.firsts[token], text.ends[token]);
+            for (int entry = 0; entry < size; entry++) {
+                if (text.reads(tokens[entry], text.bytes, text.firsts[token], text.ends[token])) {
+                    return entry;
+                }
+            }
+            return -1;
         }
 
-        int findBytes(byte[] bytes, int from, int to) {
+        int findBytes(byte[] bytes, int length) {
             for (int entry = 0; entry < size; entry++) {
-                if (text.reads(tokens[entry], bytes, from, to)) {
+                if (text.reads(tokens[entry], bytes, 0, length)) {
                     return entry;
                 }
             }
@@ -1034,9 +1039,13 @@ public final class VertexLanguage {
                 readTold();
             }
             cursor.take(Text.START);
-            program.startAt = readBody();
+            program.startAt = code.size;
+            readBlock(0);
+            code.add(Code.END, 0, 0);
             cursor.take(Text.ROUND);
-            program.roundAt = readBody();
+            program.roundAt = code.size;
+            readBlock(0);
+            code.add(Code.END, 0, 0);
             if (!cursor.sees(Text.END)) {
                 cursor.stop(1);
             }
@@ -1135,13 +1144,6 @@ public final class VertexLanguage {
             if (number >= 0 && number < ways.length) {
                 ways[number] = way;
             }
-        }
-
-        private int readBody() {
-            int at = code.size;
-            readBlock(0);
-            code.add(Code.END, 0, 0);
-            return at;
         }
 
         private void readBlock(int within) {
