@@ -18,6 +18,7 @@ public final class FaultTest {
         anyKind();
         whichFault();
         lines();
+        behindALongerText();
         Bench.finish();
     }
 
@@ -272,6 +273,7 @@ public final class FaultTest {
         badInStart(4, "give g arc . ^w;");
         badInStart(4, "if arc . ^w == 1 { send f arc . w along; }");
         badInStart(4, "send f arc . ^i along;");
+        badInStart(4, "send f arc . w along; i = arc . ^w;");
         badInStart(4, "send f arc . ^z along;");
         inStart(1, "send f if ( has f , ( - arc . w ) , draw ( arc . w ) ) against;");
         badInStart(4, "let a = ^a;");
@@ -393,7 +395,24 @@ public final class FaultTest {
         Bench.due("place of nothing", x.fault(0), 0);
         Bench.read(x, "# one\n# two\n@");
         Bench.due("line behind remarks", x.fault(1), 3);
+        Bench.read(x, "\n@");
+        Bench.due("line behind a first 10", x.fault(1), 2);
         Bench.read(x, "start { } round { }");
         Bench.due("no FAULT then", x.fault(1), -2);
+    }
+
+    /** Nothing of the text before is read, where the new one ends in the midst of a TOKEN. */
+    private static void behindALongerText() {
+        good(1, "start{}round{let abcdefghijkl=1;}");
+        bad(1, "start{}round{let abcdefghijk^");
+        bad(1, "start{}round{let ^abcdefghijklmnop=1;}");
+        bad(1, "start{}round{let abcdefghijkl^");
+        bad(1, "start{}round{loop ^99999999999{}}");
+        bad(1, "start{}round{loop 9^");
+        bad(1, "start{}round{i^=====}");
+        bad(1, "start{}round{i=^");
+        bad(1, "start{}round{i^==");
+        good(0, "start{}round{}#");
+        bad(1, "start{}round{}^a");
     }
 }

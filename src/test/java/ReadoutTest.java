@@ -8,6 +8,7 @@ public final class ReadoutTest {
         boolFolds();
         nothing();
         wrongNumbers();
+        behindALargerProgram();
         Bench.finish();
     }
 
@@ -134,5 +135,28 @@ public final class ReadoutTest {
         Bench.due("no RUN: messages", x.messages(0, 0), -1);
         Bench.due("no RUN: global", x.global(0), 0);
         Bench.due("no RUN: halted", x.halted(0), -1);
+    }
+
+    /** What a larger program and graph left is not to be seen. */
+    private static void behindALargerProgram() {
+        VertexLanguage x = begun(3, new int[][] {{0, 1}, {0, 1}, {1, 2}}, "node a:int=7;node b:int=8;fold e:least;fold f:least;"
+            + "global g:least;global h:least;start{send e 1 along;send f 1 along;halt;}round{}");
+        x.run(1);
+        Bench.read(x, "node a:int=9;fold f:sum;global h:sum;start{}round{a=degree*10+indegree;}");
+        x.begin(1);
+        Bench.due("no second state", x.state(0, 1), 0);
+        Bench.due("no second fold", x.message(1, 1), 0);
+        Bench.due("no second global", x.global(1), 0);
+        Bench.due("nothing has come", x.message(1, 0), 0);
+        Bench.due("nothing is under way", x.told(2), 0);
+        Bench.due("nobody has halted", x.told(3), 0);
+        x.nodes(2);
+        x.arc(1, 0);
+        x.begin(1);
+        x.run(2);
+        Bench.due("degrees of 0", x.state(0, 0), 1);
+        Bench.due("degrees of 1", x.state(1, 0), 10);
+        Bench.due("a weight of no arc", x.weight(1, 0, 5), 0);
+        Bench.due("and again", x.weight(1, 0, 6), 0);
     }
 }

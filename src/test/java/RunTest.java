@@ -15,6 +15,12 @@ public final class RunTest {
         whereStepsRunOut();
         undoing();
         undoingBehindFailures();
+        operators();
+        shortCuts();
+        choices();
+        loops();
+        longPrograms();
+        failingOften();
         Bench.finish();
     }
 
@@ -352,5 +358,102 @@ public final class RunTest {
         Bench.due("the FAILURE stays told", x.told(4), 1);
         x.begin(1);
         told(x, "begin() forgets it", 0, 0, 0, 0, 0, 0, 0, 0, 0, 0);
+    }
+
+    /** What i is behind a block, on a graph of one node; b is true, c false at first. */
+    private static void leaves(int want, String block) {
+        VertexLanguage x = with(1, "node i:int=0;node b:bool=true;node c:bool=false;start{" + block + "}round{}");
+        x.begin(1);
+        Bench.due("run(1) of " + block, x.run(1), 1);
+        Bench.due("i behind " + block, x.state(0, 0), want);
+    }
+
+    private static void operators() {
+        String[] signs = {"==", "!=", "<", "<=", ">", ">="};
+        String[] want = {"010", "101", "100", "110", "001", "011"};
+        for (int k = 0; k < signs.length; k++) {
+            for (int n = 0; n < 3; n++) {
+                leaves(want[k].charAt(n) - '0', "if " + (n - 1) + signs[k] + "0{i=1;}");
+            }
+        }
+        leaves(1, "if b==!c&&c!=b&&c==c{i=1;}");
+        leaves(5, "i=2+3;");
+        leaves(-1, "i=2-3;");
+        leaves(6, "i=2*3;");
+        leaves(3, "i=7/2;");
+        leaves(-3, "i=-7/2;");
+        leaves(1, "i=7%2;");
+        leaves(-1, "i=-7%2;");
+        leaves(1, "i=7%-2;");
+        leaves(-4, "i=1-2-3;");
+        leaves(2, "i=1-(2-3);");
+        leaves(1, "i=8/4/2;");
+        leaves(14, "i=2+3*4;");
+        leaves(20, "i=(2+3)*4;");
+        leaves(Integer.MIN_VALUE, "i=2147483647+1;");
+        leaves(Integer.MAX_VALUE, "i=-2147483647-2;");
+        leaves(Integer.MIN_VALUE, "i=-(-2147483647-1);");
+        leaves(-2, "i=2147483647*2;");
+        leaves(Integer.MIN_VALUE, "i=(-2147483647-1)/-1;");
+        leaves(0, "i=(-2147483647-1)%-1;");
+        leaves(7, "i=--7;");
+    }
+
+    private static void shortCuts() {
+        leaves(1, "if b&&b{i=1;}");
+        leaves(0, "if b&&c{i=1;}");
+        leaves(0, "if c&&1/i==1{i=1;}");
+        leaves(1, "if b||1/i==1{i=1;}");
+        leaves(1, "if c||b{i=1;}");
+        leaves(0, "if c||c{i=1;}");
+        leaves(1, "if c&&1/i==1||b{i=1;}");
+        leaves(1, "if b||1/i==1&&1/i==1{i=1;}");
+        leaves(0, "if (b||1/i==1)&&c{i=1;}");
+        leaves(5, "i=2+if(b,3,1/i);");
+        leaves(6, "i=2+if(c,1/i,4);");
+        leaves(9, "i=if(b,if(c,1,2),3)+7;");
+    }
+
+    private static void choices() {
+        leaves(12, "if b{i=1;}else{i=5;}i=i+11;");
+        leaves(16, "if c{i=1;}else{i=5;}i=i+11;");
+        leaves(11, "if c{i=1;}i=i+11;");
+        leaves(3, "let a=1;a=a+1;if b{let d=a+1;i=d;}");
+        leaves(7, "if b{let a=3;i=a;}if b{let a=4;i=i+a;}");
+    }
+
+    private static void loops() {
+        leaves(6, "loop 2{loop 3{i=i+1;}}");
+        leaves(20, "loop 1{i=i+1;}".repeat(20));
+        leaves(0, "loop 0{i=1;}");
+        leaves(100, "loop 100{i=i+1;}");
+        leaves(2, Bench.times(12, "loop 1{") + Bench.times(12, "}") + "i=2;");
+        leaves(4, "loop 2{" + Bench.times(10, "loop 1{") + Bench.times(10, "}") + "i=i+2;}");
+        leaves(3, "loop 100{i=i+1;if i==3{halt;}}");
+    }
+
+    private static void longPrograms() {
+        // All 1,000 TOKENS, and all but a few of the STEPS.
+        VertexLanguage x = with(1, "node i:int=0;start{i=1" + "+1".repeat(491) + ";}round{}");
+        x.begin(1);
+        Bench.due("run(1) of a long exp", x.run(1), 1);
+        Bench.due("its value", x.state(0, 0), 492);
+        Bench.due("its STEPS", x.told(9), 1 + 492 + 491);
+        // As many operands as can wait: three in each of twelve exps.
+        leaves(2, "i=if(" + "1==1+1*if(".repeat(10) + "1==1" + ",1,2)".repeat(10) + ",1,2);");
+        leaves(3 * 11 + 1, "i=" + "1+1*(2+".repeat(11) + "1" + ")".repeat(11) + ";");
+    }
+
+    private static void failingOften() {
+        VertexLanguage x = with(1, "column w;fold f:sum;start{send f 1+(2+(3+(4+draw(arc.w)))) along;}round{}");
+        x.arc(0, 0);
+        x.begin(1);
+        for (int i = 0; i < 100; i++) {
+            Bench.due("run(1)", x.run(1), -4);
+        }
+        x.weight(0, 0, 1);
+        Bench.due("run(1)", x.run(1), 1);
+        Bench.due("message", x.message(0, 0), 10);
+        Bench.due("the FAILURE stays told", x.told(4), 2);
     }
 }
