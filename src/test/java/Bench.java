@@ -2,8 +2,14 @@
 final class Bench {
     private static int wrong = 0;
     private static final int MOST_SHOWN = 40;
+    private static String sentence = "";
 
     private Bench() { }
+
+    /** The words of the document that the following calls are about: told with each wrong answer. */
+    static void sentence(String words) {
+        sentence = "\"" + words + "\": ";
+    }
 
     static void due(String call, long got, long want) {
         if (got != want) {
@@ -15,7 +21,7 @@ final class Bench {
         if (!got.equals(want)) {
             wrong++;
             if (wrong <= MOST_SHOWN) {
-                System.out.println(call + " answered [" + got + "], due is [" + want + "]");
+                System.out.println(sentence + call + " answered [" + got + "], due is [" + want + "]");
             }
         }
     }
