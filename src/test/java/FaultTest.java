@@ -1,6 +1,7 @@
 /** Promises 4 and 5: program, fault. A ^ in a text here stands before the TOKEN that is to blame. */
 public final class FaultTest {
-    private static final VertexLanguage x = new VertexLanguage();
+    private static VertexLanguage x = new VertexLanguage();
+    private static boolean onNewObjects = true;
 
     private FaultTest() { }
 
@@ -22,13 +23,21 @@ public final class FaultTest {
         Bench.finish();
     }
 
+    private static void begin() {
+        if (onNewObjects) {
+            x = new VertexLanguage();
+        }
+    }
+
     private static void good(int statements, String text) {
+        begin();
         Bench.due("program() of " + text, Bench.read(x, text), statements);
         Bench.due("fault(0) of " + text, x.fault(0), -2);
         Bench.due("fault(1) of " + text, x.fault(1), -2);
     }
 
     private static void bad(int fault, String marked) {
+        begin();
         int place = marked.indexOf('^');
         String text = marked.substring(0, place) + marked.substring(place + 1);
         Bench.due("program() of " + text, Bench.read(x, text), -10 - fault);
@@ -403,6 +412,8 @@ public final class FaultTest {
 
     /** Nothing of the text before is read, where the new one ends in the midst of a TOKEN. */
     private static void behindALongerText() {
+        begin();
+        onNewObjects = false;
         good(1, "start{}round{let abcdefghijkl=1;}");
         bad(1, "start{}round{let abcdefghijk^");
         bad(1, "start{}round{let ^abcdefghijklmnop=1;}");

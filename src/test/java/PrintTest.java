@@ -1,7 +1,6 @@
 /** Promise 6: print. */
 public final class PrintTest {
     private static final String TOLD = "column w ; node i : int = 1 ; node b : bool = true ; fold f : sum ; ";
-    private static final VertexLanguage x = new VertexLanguage();
 
     private PrintTest() { }
 
@@ -14,12 +13,9 @@ public final class PrintTest {
     }
 
     private static void prints(String text, String want) {
-        Bench.read(x, text);
-        String got = Bench.printed(x);
-        Bench.due("printed " + text, got, want);
-        Bench.due("how many bytes of " + text, x.print(-1), want.length());
-        Bench.read(x, got);
-        Bench.due("printed again " + text, Bench.printed(x), want);
+        Edge.prints(text, want);
+        Bench.due("how many bytes of " + text, Edge.reading(text).print(-1), want.length());
+        Edge.prints(want, want);
     }
 
     private static void exp(String statement, String want) {
@@ -44,7 +40,7 @@ public final class PrintTest {
     }
 
     private static void bounds() {
-        Bench.read(x, "start{}round{}");
+        VertexLanguage x = Edge.reading("start{}round{}");
         Bench.due("print(0)", x.print(0), 's');
         Bench.due("print(18)", x.print(18), '}');
         Bench.due("print(19)", x.print(19), -1);

@@ -5,18 +5,24 @@ public final class RoomTest {
     private static final com.sun.management.ThreadMXBean BEAN =
         (com.sun.management.ThreadMXBean) ManagementFactory.getThreadMXBean();
 
+    private static final int OBJECTS = 20;
+
     private RoomTest() { }
 
     public static void main(String[] args) {
         int[][] text = textAsNumbers();
-        VertexLanguage x = new VertexLanguage();
-        use(x, text, 2);
+        use(new VertexLanguage(), text, 0);
+        VertexLanguage[] all = new VertexLanguage[OBJECTS];
         long before = BEAN.getCurrentThreadAllocatedBytes();
-        VertexLanguage y = new VertexLanguage();
-        long made = BEAN.getCurrentThreadAllocatedBytes() - before;
+        for (int i = 0; i < OBJECTS; i++) {
+            all[i] = new VertexLanguage();
+        }
+        long made = (BEAN.getCurrentThreadAllocatedBytes() - before) / OBJECTS;
         Bench.due("a new object is small", made < 300_000 ? 1 : made, 1);
         before = BEAN.getCurrentThreadAllocatedBytes();
-        use(y, text, 40);
+        for (int i = 0; i < OBJECTS; i++) {
+            use(all[i], text, i);
+        }
         long used = BEAN.getCurrentThreadAllocatedBytes() - before;
         Bench.due("calls make nothing", used < 20_000 ? 0 : used, 0);
         Bench.finish();
@@ -37,23 +43,23 @@ public final class RoomTest {
         return all;
     }
 
-    private static void use(VertexLanguage x, int[][] text, int times) {
-        for (int i = 0; i < times; i++) {
-            for (int[] n : text) {
-                x.feed(n[0], n[1], n[2], n[3], n[4]);
-            }
-            require("program()", x.program() > 0);
-            x.nodes(40);
-            for (int arc = 0; arc < 120; arc++) {
-                x.arc(arc % 40, arc * 7 % 40);
-                x.weight(arc, 0, arc);
-            }
-            require("begin()", x.begin(i) == 1);
-            require("run(100)", x.run(100) == 100);
-            x.undo();
-            require("told(8)", x.told(8) == 5);
-            require("print(-1)", x.print(-1) > 0);
+    private static void use(VertexLanguage x, int[][] text, int seed) {
+        for (int[] n : text) {
+            x.feed(n[0], n[1], n[2], n[3], n[4]);
         }
+        require("program()", x.program() > 0);
+        x.nodes(40);
+        for (int arc = 0; arc < 120; arc++) {
+            x.arc(arc % 40, arc * 7 % 40);
+            x.weight(arc, 0, arc);
+        }
+        require("begin()", x.begin(seed) == 1);
+        for (int i = 0; i < 60; i++) {
+            require("run(100)", x.run(100) == 100);
+        }
+        x.undo();
+        require("told(8)", x.told(8) == 5);
+        require("print(-1)", x.print(-1) > 0);
     }
 
     private static void require(String call, boolean fine) {
