@@ -22,6 +22,7 @@ public final class EdgeFaultsTest {
         statementsAtTheirFirstToken();
         blocksWithin();
         expsWithin();
+        expsOfAnySort();
         onesWithin();
         mixedWithin();
         besideNotWithin();
@@ -288,6 +289,35 @@ public final class EdgeFaultsTest {
         badInStart(2, "i=" + nested(11, "if(b,", "if(^b,1,2)", ",2)") + ";");
         inStart(1, "i=" + nested(11, "if(b,2,", "1", ")") + ";");
         badInStart(2, "i=" + nested(11, "if(b,2,", "if(^b,1,2)", ")") + ";");
+    }
+
+    private static void expsOfAnySort() {
+        Bench.sentence("an exp, a one .. within more than 12 of these (whatever its first TOKEN is)");
+        for (String exp : new String[] {"1", "i", "f", "g", "arc.w", "id", "turn", "nodes", "degree", "indegree"}) {
+            String send = "send f " + exp + " along;";
+            inStart(12, nested(11, "loop 1{", send, "}"));
+            badInStart(2, nested(12, "loop 1{", "send f ^" + exp + " along;", "}"));
+            inStart(1, "send f " + nested(11, "(", exp, ")") + " along;");
+            badInStart(2, "send f " + nested(12, "(", "^" + exp, ")") + " along;");
+            inStart(1, "send f " + "-".repeat(11) + exp + " along;");
+            badInStart(2, "send f " + "-".repeat(12) + "^" + exp + " along;");
+        }
+        for (String exp : new String[] {"true", "false", "b", "has f"}) {
+            inStart(12, nested(11, "loop 1{", "b=" + exp + ";", "}"));
+            badInStart(2, nested(12, "loop 1{", "b=^" + exp + ";", "}"));
+            inStart(1, "b=" + nested(11, "(", exp, ")") + ";");
+            badInStart(2, "b=" + nested(12, "(", "^" + exp, ")") + ";");
+            inStart(1, "b=" + "!".repeat(11) + exp + ";");
+            badInStart(2, "b=" + "!".repeat(12) + "^" + exp + ";");
+        }
+        // Those that hold another exp are to blame themselves, not it.
+        for (String exp : new String[] {"draw(1)", "if(b,1,2)", "(1)", "-1"}) {
+            inStart(11, nested(10, "loop 1{", "i=" + exp + ";", "}"));
+            badInStart(2, nested(12, "loop 1{", "i=^" + exp + ";", "}"));
+            badInStart(2, "i=" + nested(12, "(", "^" + exp, ")") + ";");
+            badInStart(2, "i=" + "-".repeat(12) + "^" + exp + ";");
+        }
+        badInStart(2, nested(12, "loop 1{", "b=^!b;", "}"));
     }
 
     private static void onesWithin() {

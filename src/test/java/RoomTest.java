@@ -54,7 +54,7 @@ public final class RoomTest {
             x.weight(arc, 0, arc);
         }
         require("begin()", x.begin(seed) == 1);
-        for (int i = 0; i < 60; i++) {
+        for (int i = 0; i < 6; i++) {
             require("run(100)", x.run(100) == 100);
         }
         x.undo();
